@@ -262,6 +262,7 @@ public final class RoundJournal {
         private final byte[] bytes;
 
         Blocks(int wanted) {
+            // a length that is always good for a new array; no row of more BLOCKS is ever needed
             count = Math.max(0, Math.min(wanted, MOST_WAITING + 1));
             bytes = new byte[count * BLOCK_SIZE];
         }
@@ -281,7 +282,12 @@ public final class RoundJournal {
         }
 
         int u32(int block, int i) {
-            return get(block, i) << 24 | get(block, i + 1) << 16 | get(block, i + 2) << 8 | get(block, i + 3);
+            if (i > BLOCK_SIZE - 4 || !has(block, i)) {
+                return 0;
+            }
+            int at = block * BLOCK_SIZE + i;
+            return (bytes[at] & 0xFF) << 24 | (bytes[at + 1] & 0xFF) << 16 | (bytes[at + 2] & 0xFF) << 8
+                | bytes[at + 3] & 0xFF;
         }
 
         void setU32(int block, int i, int v) {
@@ -298,15 +304,19 @@ public final class RoundJournal {
         }
 
         void copyFrom(Blocks other, int from, int to, int n) {
-            for (int i = 0; i < n; i++) {
-                set(to, i, other.get(from, i));
+            if (has(to, 0) && other.has(from, 0) && n >= 0 && n <= BLOCK_SIZE) {
+                System.arraycopy(other.bytes, from * BLOCK_SIZE, bytes, to * BLOCK_SIZE, n);
             }
         }
 
         int checkOf(int block) {
+            if (!has(block, 0)) {
+                return 0;
+            }
+            int at = block * BLOCK_SIZE;
             int crc = -1;
             for (int i = 0; i < CHECK_AT; i++) {
-                crc ^= get(block, i);
+                crc ^= bytes[at + i] & 0xFF;
                 crc = crc >>> 4 ^ FOUR_BITS[crc & 15];
                 crc = crc >>> 4 ^ FOUR_BITS[crc & 15];
             }

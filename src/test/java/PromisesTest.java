@@ -20,6 +20,8 @@ public final class PromisesTest {
         crashRefuses();
         crashWithHeadsForged();
         crashWithPagesForged();
+        crashFindsBytesAnew();
+        crashWithoutHeads();
         crashWithManyPages();
         spoilAndDisk();
         record();
@@ -436,6 +438,16 @@ public final class PromisesTest {
         duePagesFound("up to byte 59", 3, 8, 3, head, first, Checks.page(2, 6, 2, behind40));
         behind40[43] = 8;
         duePagesFound("beyond byte 59", 1, 6, 2, head, first, Checks.page(2, 6, 2, behind40));
+        int[] last = new int[51];
+        last[0] = 3;
+        last[1] = 40;
+        last[42] = 4;
+        last[43] = 5;
+        last[49] = 255;
+        duePagesFound("an empty RECORD up to byte 59", 4, 9, 3, head, first, Checks.page(2, 6, 3, last));
+        last[43] = 6;
+        last[50] = 255;
+        duePagesFound("half a RECORD at byte 59", 1, 6, 2, head, first, Checks.page(2, 6, 3, last));
         int[] many = new int[51];
         java.util.Arrays.fill(many, 1);
         for (int i = 0; i < 25; i++) {
@@ -472,6 +484,40 @@ public final class PromisesTest {
         Checks.forge(x, 2 + most % 30, Checks.page(most + 1, 2, 1, 1, 0));
         Checks.due("PAGES beyond the most", Checks.crash(x, 0, 0), 2);
         Checks.due("the next PAGE", x.total(9), most + 2);
+    }
+
+    private static void crashFindsBytesAnew() {
+        RoundJournal x = forged(Checks.head(2, 1, 5), Checks.page(1, 4, 3, 1, 2, 0xEE, 0xDD, 2, 0, 255, 3, 7, 0xFF, 9),
+            Checks.page(2, 7, 2, 6, 1, 77, 5, 2, 0, 1));
+        Checks.due("crash", Checks.crash(x, 0, 0), 4);
+        int[][] want = {{5, 2, 0, 1}, {6, 255, 3, 1, 7, 255, 9}, {7, 6, 1, 2, 77}, {8, 5, 2, 2, 0, 1}};
+        for (int i = 0; i < want.length; i++) {
+            for (int what = 0; what < want[i].length; what++) {
+                Checks.due("record(" + i + ", " + what + ")", Checks.record(x, i, what), want[i][what]);
+            }
+            Checks.due("no byte more", Checks.record(x, i, want[i].length), Checks.NO_SUCH_ELEMENT);
+        }
+        Checks.due("append", Checks.append(x, 8), 9);
+        Checks.due("the next PAGE", Checks.record(x, 4, 3), 3);
+        Checks.due("sync", x.sync(), 1);
+        Checks.dueBlock("the next PAGE", x, 4, Checks.page(3, 9, 1, 8, 0));
+        Checks.due("keep on the first PAGE", x.keep(6), true);
+        Checks.dueWrite("keep on the first PAGE", x, 0, 1, Checks.head(3, 1, 6));
+    }
+
+    private static void crashWithoutHeads() {
+        RoundJournal x = new RoundJournal();
+        Checks.appendFilled(x, 1, 40, 1);
+        Checks.appendFilled(x, 2, 40, 2);
+        x.keep(2);
+        x.sync();
+        Checks.dueTotals("HEAD 2", x, 1, 2, 3, 0, 0, 0, 2, 2, 0, 3);
+        x.spoil(0, 63, x.disk(0, 63) ^ 1);
+        x.spoil(1, 63, x.disk(1, 63) ^ 1);
+        Checks.due("found from PAGE 1 on", Checks.crash(x, 0, 0), 2);
+        Checks.dueTotals("no HEAD", x, 2, 1, 3, 0, 0, 0, 1, 0, 1, 3);
+        Checks.due("keep", x.keep(3), true);
+        Checks.dueWrite("TURN 1 anew", x, 0, 1, Checks.head(1, 3, 3));
     }
 
     private static void crashWithManyPages() {
