@@ -7,19 +7,27 @@ final class Checks {
     static final String ILLEGAL_STATE = "throws.IllegalStateException";
     static final String NO_SUCH_ELEMENT = "throws.NoSuchElementException";
 
+    private static final int MOST_SHOWN = 100;
+
     private static int wrong = 0;
     private static int made = 0;
 
     private Checks() { }
 
-    static void due(String call, Object got, Object want) {
+    static boolean due(String call, Object got, Object want) {
         made++;
-        if (!String.valueOf(got).equals(String.valueOf(want))) {
+        boolean good = String.valueOf(got).equals(String.valueOf(want));
+        if (!good) {
             wrong++;
-            if (wrong <= 100) {
+            if (wrong <= MOST_SHOWN) {
                 System.out.println(call + " answered " + got + ", due is " + want);
             }
         }
+        return good;
+    }
+
+    static boolean showsMore() {
+        return wrong <= MOST_SHOWN;
     }
 
     static boolean anyWrong() {
@@ -66,7 +74,7 @@ final class Checks {
     }
 
     // the exact class's name, so that what the machine throws is never taken for what the document asks
-    private static String thrown(RuntimeException e) {
+    static String thrown(RuntimeException e) {
         return "throws." + e.getClass().getSimpleName();
     }
 
@@ -104,6 +112,14 @@ final class Checks {
             block[9 + i] = (byte) bytes[i];
         }
         return sealed(block);
+    }
+
+    /** The PAGE of one RECORD of 40 bytes, all of them as its number, that Journal.appendPages makes. */
+    static byte[] filledPage(int number) {
+        int[] bytes = new int[42];
+        java.util.Arrays.fill(bytes, number);
+        bytes[1] = 40;
+        return page(number, number, 1, bytes);
     }
 
     /** Spoils just the bytes that differ, to spare an object's 512 calls. */
