@@ -1,8 +1,9 @@
+import java.util.Arrays;
 import java.util.function.Consumer;
 
 /** Promise 3, sentence by sentence where one names a boundary case. */
 public final class AppendBoundaryTest {
-    private static final int[] NO_KINDS = {Integer.MIN_VALUE, -256, -255, -1, 0, 256, 257, 511, 65537, Integer.MAX_VALUE};
+    private static final int[] NO_KINDS = {Integer.MIN_VALUE, -256, -255, -1, 0, 256, 257, 511, Integer.MAX_VALUE};
     private static final int MOST = 1000000;
 
     private AppendBoundaryTest() { }
@@ -58,8 +59,8 @@ public final class AppendBoundaryTest {
         for (int n = 0; n <= 40; n++) {
             int[] page = new int[2 + n];
             int[] record = new int[4 + n];
-            java.util.Arrays.fill(page, 0xFE);
-            java.util.Arrays.fill(record, 0xFE);
+            Arrays.fill(page, 0xFE);
+            Arrays.fill(record, 0xFE);
             System.arraycopy(new int[] {255, n}, 0, page, 0, 2);
             System.arraycopy(new int[] {1, 255, n, 1}, 0, record, 0, 4);
             Journal x = new Journal().appendFilled(255, n, 0xFE).due(1).dueRecord(0, record);
@@ -67,7 +68,7 @@ public final class AppendBoundaryTest {
         }
     }
 
-    // Promise 3, Terms: "RECORDS are numbered 1, 2, 3 ..": on, over refused calls and new PAGES; again, if one is no more
+    // Promise 3, Terms: "RECORDS are numbered 1, 2, 3 ..": over refused calls and new PAGES; again, if one is no more
     private static void numbers() {
         Journal x = new Journal().append(1).due(1).append(0).due(Checks.ILLEGAL_ARGUMENT).append(1).due(2);
         x.sync().due(1).append(1).due(3).keep(4).due(true).append(1).due(4).appendFilled(1, 40, 1).due(5);
@@ -121,6 +122,7 @@ public final class AppendBoundaryTest {
         x.appendFilled(31, 40, 31).due(0).total(3).due(30).total(9).due(31);
         x = new Journal().appendPages(1, 30).keep(2).due(true).sync().due(31).total(6).due(2);
         x.appendPages(31, 31).total(3).due(31).appendFilled(32, 40, 32).due(0).total(3).due(31);
+        x.sync().due(1).total(6).due(2).append(32).due(0).total(3).due(0).total(9).due(32);
         x = new Journal().appendPages(1, 30).keep(31).due(true).sync().due(31).total(6).due(30);
         x.appendPages(31, 59).total(3).due(59).appendFilled(60, 40, 60).due(0).total(3).due(59);
     }
@@ -150,7 +152,7 @@ public final class AppendBoundaryTest {
     private static void headWrittenInHalf() {
         byte[] head = Checks.head(2, 2, 2);
         for (int c = 0; c <= 64; c++) {
-            boolean whole = java.util.Arrays.equals(head, java.util.Arrays.copyOf(java.util.Arrays.copyOf(head, c), 64));
+            boolean whole = Arrays.equals(head, Arrays.copyOf(Arrays.copyOf(head, c), 64));
             Journal x = new Journal().appendPages(1, 30).sync().due(30).keep(2).due(true);
             x.crash(0, c).due(whole ? 29 : 30).append(9).due(whole ? 31 : 0).total(6).due(whole ? 2 : 1);
         }
@@ -233,7 +235,7 @@ public final class AppendBoundaryTest {
         x.appendEmpty(1, 41).keepEach(2, 40).total(5).due(40);
     }
 
-    // Promise 3: "IllegalStateException, with a good one: 40 WRITES wait": not with 39; nothing comes; not behind a SYNC
+    // Promise 3: "IllegalStateException, with a good one: 40 WRITES wait": not with 39, nor behind a SYNC
     private static void fortyWait() {
         new Journal().appendEmpty(1, 41).keepEach(2, 39).total(5).due(39).append(1).due(42).keep(40).due(true)
             .append(1).due(Checks.ILLEGAL_STATE).total(5).due(40).total(2).due(43);

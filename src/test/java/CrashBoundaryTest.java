@@ -56,6 +56,9 @@ public final class CrashBoundaryTest {
         for (int c = 0; c <= 64; c += 16) {
             Journal x = new Journal().appendPages(1, 3).crash(2, c).due(2).dueBlock(4, new byte[64]);
             x.dueBlock(2, Checks.filledPage(1)).dueBlock(3, Checks.filledPage(2));
+            // nor is one that was done long ago
+            x = new Journal().appendEmpty(1, 6).keepEach(2, 4).sync().due(4).keep(5).due(true).crash(1, c).due(2);
+            x.dueBlock(0, Checks.head(4, 1, 4)).dueBlock(1, Checks.head(5, 1, 5));
         }
     }
 
@@ -84,7 +87,7 @@ public final class CrashBoundaryTest {
         x.dueRecord(0, 1, 7, 0, 1).append(9).due(2).dueRecord(1, 2, 9, 0, 2);
     }
 
-    // Promise 6, Terms: "its first c bytes come to the DISK": half of HEAD 3 over HEAD 1 leaves HEAD 2, all of it is HEAD 3
+    // Promise 6, Terms: "its first c bytes come to the DISK": half of HEAD 3 over HEAD 1 leaves HEAD 2
     private static void halfAHeadOverAnOlderOne() {
         byte[] older = Checks.head(1, 1, 1);
         byte[] newer = Checks.head(3, 1, 3);
@@ -111,8 +114,8 @@ public final class CrashBoundaryTest {
 
     // Promise 6: "IllegalArgumentException: k below 0, another c": no CRASH then
     private static void wrongOnes() {
-        int[][] wrong = {{-1, 0}, {-1, 64}, {LOW, 0}, {0, -1}, {0, 65}, {0, LOW}, {0, HIGH}, {0, 256}, {4, 65}, {HIGH, -1},
-            {-1, -1}, {-1, 65}};
+        int[][] wrong = {{-1, 0}, {-1, 64}, {LOW, 0}, {0, -1}, {0, 65}, {0, LOW}, {0, HIGH}, {0, 256}, {4, 65},
+            {HIGH, -1}, {-1, -1}, {-1, 65}};
         for (int[] kc : wrong) {
             State.dueUnchanged("crash(" + kc[0] + ", " + kc[1] + ")", x -> x.appendPages(1, 4).keep(2).type(5, 5),
                 x -> x.crash(kc[0], kc[1]).due(Checks.ILLEGAL_ARGUMENT));

@@ -114,7 +114,8 @@ public final class FoundAgainBoundaryTest {
     private static void withoutAHead() {
         dueHead(ZERO, ZERO, 0, 1, 1);
         Journal x = new Journal().appendPages(1, 3).keep(3).due(true).sync().due(4);
-        x.spoil(0, 60, ~Checks.head(2, 3, 3)[60]).spoil(1, 60, ~HEAD_1[60]).crash(0, 0).due(3).dueTotals(3, 1, 4, 0, 0, 0, 1, 0, 1, 4);
+        x.spoil(0, 60, ~Checks.head(2, 3, 3)[60]).spoil(1, 60, ~HEAD_1[60]);
+        x.crash(0, 0).due(3).dueTotals(3, 1, 4, 0, 0, 0, 1, 0, 1, 4);
         x.keep(2).due(true).dueWrite(0, 1, Checks.head(1, 2, 2));
     }
 
@@ -133,7 +134,7 @@ public final class FoundAgainBoundaryTest {
         x.record(records, 0).due(Checks.NO_SUCH_ELEMENT).append(7).due(next).record(records, 3).due(nextPage);
     }
 
-    // Promise 6, Terms: "The next RECORD has the number .. (KEPT, if there is no PAGE ..)"; the next PAGE is OLDEST then
+    // Promise 6, Terms: "The next RECORD has the number .. (KEPT, if there is no PAGE ..)"; the next PAGE is OLDEST
     private static void noPage() {
         dueFound(0, 5, 1, HEAD);
         dueFound(0, 5, 1, HEAD, ZERO, Checks.page(2, 5, 1, 1, 0));
@@ -184,7 +185,8 @@ public final class FoundAgainBoundaryTest {
         dueFound(25, MOST + 25, 2, head, Checks.page(1, MOST, 25, emptyRecords(25)));
         dueFound(1, MOST + 1, 3, head, Checks.page(1, MOST - 1, 1, 1, 0), Checks.page(2, MOST, 1, 1, 0));
         dueFound(1, MOST + 1, 2, head, Checks.page(1, MOST, 1, 1, 0), Checks.page(2, MOST + 1, 1, 1, 0));
-        dueFound(2, MOST + 2, 2, head, Checks.page(1, MOST - 1, 3, 1, 0, 1, 0, 1, 0), Checks.page(2, MOST + 2, 1, 1, 0));
+        byte[] beyond = Checks.page(2, MOST + 2, 1, 1, 0);
+        dueFound(2, MOST + 2, 2, head, Checks.page(1, MOST - 1, 3, 1, 0, 1, 0, 1, 0), beyond);
     }
 
     private static int[] emptyRecords(int n) {
@@ -266,7 +268,7 @@ public final class FoundAgainBoundaryTest {
         dueFound(2, 7, 3, Checks.sealed(head), PAGE_1, Checks.sealed(page));
     }
 
-    // Promise 6, Terms: "their RECORDS from KEPT on": KEPT is the first PAGE's first, its last, the second's first, last
+    // Promise 6, Terms: "their RECORDS from KEPT on": KEPT is each of the RECORDS of two PAGES
     private static void recordsFromKeptOn() {
         byte[] first = Checks.page(1, 3, 3, 13, 1, 103, 14, 1, 104, 15, 1, 105);
         byte[] second = Checks.page(2, 6, 2, 16, 1, 106, 17, 1, 107);
@@ -303,8 +305,8 @@ public final class FoundAgainBoundaryTest {
             }
             x.append(9).due(pages < 30 ? 30 : 0);
         }
-        Journal x = new Journal().appendPages(1, 30).keep(16).due(true).sync().due(31).appendPages(31, 45).sync().due(15);
-        x.crash(0, 0).due(30).dueTotals(30, 16, 46, 0, 0, 0, 16, 2, 1, 46);
+        Journal x = new Journal().appendPages(1, 30).keep(16).due(true).sync().due(31).appendPages(31, 45);
+        x.sync().due(15).crash(0, 0).due(30).dueTotals(30, 16, 46, 0, 0, 0, 16, 2, 1, 46);
         for (int i = 0; i < 30; i++) {
             x.record(i, 3).due(16 + i).record(i, 43).due(16 + i);
         }
@@ -336,8 +338,8 @@ public final class FoundAgainBoundaryTest {
         }
     }
 
-    // Promise 6, Terms: "as FIRST .. the number behind the last RECORD ahead": PAGES that a hole cut off are FOUND again
-    // once a PAGE comes that leads up to them, and not if it leads elsewhere
+    // Promise 6, Terms: "as FIRST .. the number behind the last RECORD ahead": PAGES that a hole cut off are
+    // FOUND again once a PAGE comes that leads up to them, and not if it leads elsewhere
     private static void pagesLeftBehindAHole() {
         int spoilt = ~Checks.filledPage(2)[63];
         Journal x = new Journal().appendPages(1, 4).sync().due(4).spoil(3, 63, spoilt).crash(0, 0).due(1);

@@ -49,7 +49,8 @@ public final class KeepBoundaryTest {
         dueRefused(x -> { }, LOW, 0, 1, 2, HIGH);
         dueRefused(x -> x.append(1).keep(2), 1, 2, 3);
         dueRefused(x -> x.append(1).crash(0, 0), 1, 2);
-        new Journal().append(1).keep(2).due(true).keep(2).due(false).keep(3).due(false).append(1).due(2).keep(3).due(true);
+        new Journal().append(1).keep(2).due(true).keep(2).due(false).keep(3).due(false)
+            .append(1).due(2).keep(3).due(true);
     }
 
     // Promise 5: "false, changing nothing, if .. 40 WRITES wait": the 40th is still taken; a SYNC makes room again
@@ -88,7 +89,8 @@ public final class KeepBoundaryTest {
     private static void openPage() {
         new Journal().append(1).due(1).keep(2).due(true).dueWrite(0, 0, Checks.head(2, 1, 2));
         Journal x = new Journal().appendEmpty(1, 25).keep(26).due(true).dueWrite(0, 0, Checks.head(2, 1, 26));
-        x.append(1).due(26).record(0, 3).due(2).sync().due(3).crash(0, 0).due(1).dueTotals(1, 26, 27, 0, 0, 0, 1, 2, 1, 3);
+        x.append(1).due(26).record(0, 3).due(2).sync().due(3).crash(0, 0).due(1);
+        x.dueTotals(1, 26, 27, 0, 0, 0, 1, 2, 1, 3);
     }
 
     // Promise 5, Terms: "(or the PAGE that would come to be OPEN)": none is OPEN behind a SYNC, or behind a CRASH
@@ -107,13 +109,15 @@ public final class KeepBoundaryTest {
         x.crash(0, 0).due(1).dueTotals(1, 31, 32, 0, 0, 0, 31, 2, 1, 32);
     }
 
-    // Promise 5, Terms: "a WRITE of the HEAD of the next TURN waits behind the others"; "HEAD t lies in BLOCK t modulo 2"
+    // Promise 5, Terms: "a WRITE of the HEAD of the next TURN waits behind the others"; "HEAD t lies in BLOCK t modulo
+    // 2": the HEADS go round
     private static void headsByTurns() {
         Journal x = new Journal().appendEmpty(1, 40);
         for (int n = 2; n <= 40; n++) {
             x.keep(n).due(true).total(5).due(n).write(n - 1, 0).due(n % 2).write(n - 1, 4).due(n).total(7).due(n);
         }
-        x.sync().due(41).disk(0, 3).due(40).disk(1, 3).due(39).keep(41).due(true).write(0, 0).due(1).write(0, 4).due(41);
+        x.sync().due(41).disk(0, 3).due(40).disk(1, 3).due(39);
+        x.keep(41).due(true).write(0, 0).due(1).write(0, 4).due(41);
     }
 
     // Promise 5, Terms: "A HEAD: .. others are 0": also where a PAGE waited before it
@@ -133,17 +137,17 @@ public final class KeepBoundaryTest {
         }
     }
 
-    // Promise 5 and 6: "TURN, OLDEST, KEPT 1 .. 1000000" bound what is found, not what is told: the HEAD of a greater one
-    // is written, but a CRASH finds the one ahead of it
+    // Promise 5 and 6: "TURN, OLDEST, KEPT 1 .. 1000000" bound what is found, not what is told: the HEAD with a greater
+    // one is written, but a CRASH finds the one ahead of it
     private static void beyondTheGreatestNumbers() {
-        Journal x = new Journal().forge(0, Checks.head(MOST, 1, 1)).crash(0, 0).due(0).append(9).due(1).keep(2).due(true);
-        x.dueWrite(0, 1, Checks.head(MOST + 1, 1, 2)).sync().due(2).total(7).due(MOST + 1);
+        Journal x = new Journal().forge(0, Checks.head(MOST, 1, 1)).crash(0, 0).due(0).append(9).due(1);
+        x.keep(2).due(true).dueWrite(0, 1, Checks.head(MOST + 1, 1, 2)).sync().due(2).total(7).due(MOST + 1);
         x.crash(0, 0).due(1).dueTotals(1, 1, 2, 0, 0, 0, 1, MOST, 2, 2);
         x = new Journal().forge(0, Checks.head(2, MOST, 1)).crash(0, 0).due(0).append(9).due(1).sync().due(1);
         x.keep(2).due(true).dueWrite(0, 1, Checks.head(3, MOST + 1, 2)).sync().due(1).total(6).due(MOST + 1);
         x.crash(0, 0).due(1).dueTotals(1, 1, 2, 0, 0, 0, MOST, 2, 2, MOST + 1);
-        x = new Journal().forge(0, Checks.head(2, 1, MOST)).crash(0, 0).due(0).append(9).due(MOST).keep(MOST + 1).due(true);
-        x.dueWrite(0, 1, Checks.head(3, 1, MOST + 1)).sync().due(2).total(1).due(MOST + 1);
+        x = new Journal().forge(0, Checks.head(2, 1, MOST)).crash(0, 0).due(0).append(9).due(MOST);
+        x.keep(MOST + 1).due(true).dueWrite(0, 1, Checks.head(3, 1, MOST + 1)).sync().due(2).total(1).due(MOST + 1);
         x.crash(0, 0).due(1).dueTotals(1, MOST, MOST + 1, 0, 0, 0, 1, 2, 2, 2);
     }
 }

@@ -35,7 +35,8 @@ public final class NewObjectBoundaryTest {
         new Journal().appendPages(1, 2).sync().forge(4, zero).crash(0, 0).due(2).total(9).due(3);
     }
 
-    // Promise 1, Terms: "IN MEMORY: RECORDS from KEPT on; the OPEN PAGE (PAGE 1 at first) ..; WRITES that wait ..; KEPT"
+    // Promise 1, Terms: "IN MEMORY: RECORDS from KEPT on; the OPEN PAGE (PAGE 1 at first) ..; WRITES that wait ..;
+    // KEPT": the empty memory
     private static void emptyMemory() {
         Journal x = new Journal().dueTotals(0, 1, 1, 1, 0, 0, 1, 1, 0, 2, RoundJournal.NONE);
         for (int what = -1; what <= 65; what++) {

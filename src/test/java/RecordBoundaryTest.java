@@ -76,8 +76,8 @@ public final class RecordBoundaryTest {
         }
     }
 
-    // Promise 9: "the i-th RECORD in memory": as many as an object's calls can bring. No run shows all 750 that 30 PAGES
-    // can have (25 each), as each of them takes an append.
+    // Promise 9: "the i-th RECORD in memory": as many as an object's calls can bring. No run shows all 750 that 30
+    // PAGES can have (25 each), as each of them takes an append.
     private static void manyRecords() {
         Journal x = new Journal().appendEmpty(1, 500).record(499, 0).due(500).record(499, 1).due(1 + 500 % 255);
         x.record(499, 3).due(20).record(0, 0).due(1).record(475, 3).due(20).record(474, 3).due(19);

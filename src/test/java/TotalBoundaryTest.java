@@ -30,8 +30,9 @@ public final class TotalBoundaryTest {
 
     // Promise 11: "What 0: RECORDS in memory": none, one, all, none again
     private static void recordsInMemory() {
-        new Journal().total(0).due(0).append(1).due(1).total(0).due(1).append(0).total(0).due(1).sync().due(1).total(0).due(1)
-            .keep(2).due(true).total(0).due(0).append(1).due(2).total(0).due(1).crash(0, 0).due(1).total(0).due(1);
+        Journal x = new Journal().total(0).due(0).append(1).due(1).total(0).due(1).append(0).total(0).due(1);
+        x.sync().due(1).total(0).due(1).keep(2).due(true).total(0).due(0).append(1).due(2).total(0).due(1);
+        x.crash(0, 0).due(1).total(0).due(1).record(0, 0).due(1);
     }
 
     // Promise 11: "1: KEPT, 2: the next RECORD's number": equal where there is no RECORD; up to the greatest number
@@ -62,7 +63,8 @@ public final class TotalBoundaryTest {
 
     // Promise 11: "5: WRITES that wait": 0 .. 40
     private static void writesThatWait() {
-        Journal x = new Journal().total(5).due(0).appendEmpty(1, 25).total(5).due(0).appendEmpty(26, 41).total(5).due(1);
+        Journal x = new Journal().total(5).due(0).appendEmpty(1, 25).total(5).due(0);
+        x.appendEmpty(26, 41).total(5).due(1);
         for (int n = 2; n <= 40; n++) {
             x.keep(n).due(true).total(5).due(n);
         }

@@ -12,6 +12,7 @@ public final class TypeBoundaryTest {
         upToForty();
         fullTape();
         refusedInTheMiddle();
+        tapeStaysTillAnAppend();
         Checks.end("TypeBoundaryTest");
     }
 
@@ -52,7 +53,7 @@ public final class TypeBoundaryTest {
         x.typeFilled(40, 2).type(3, 1).due(false);
     }
 
-    // Promise 2: "or if it would have more than 40": from each length on, the last n that is taken, the first that isn't
+    // Promise 2: "or if it would have more than 40": from each length on, the last n taken, the first that isn't
     private static void upToForty() {
         for (int length = 0; length <= 40; length++) {
             for (int n = 1; n <= 8; n++) {
@@ -77,5 +78,15 @@ public final class TypeBoundaryTest {
         for (int k = 32; k < 40; k++) {
             x.record(0, 4 + k).due(k - 31);
         }
+    }
+
+    // Promise 2 and 3: what went to the tape stays there till an append; Terms: it is not among what is IN MEMORY, so
+    // that a CRASH leaves it, too
+    private static void tapeStaysTillAnAppend() {
+        Journal x = new Journal().append(1).due(1).typeFilled(39, 0xEE).sync().due(1).keep(2).due(true);
+        x.keep(2).due(false).spoil(2, 0, 1).due(true).disk(2, 0).due(1).total(0).due(0);
+        x.record(0, 0).due(Checks.NO_SUCH_ELEMENT).write(0, 0).due(0);
+        x.crash(-1, 0).due(Checks.ILLEGAL_ARGUMENT).crash(1, 0).due(0).type(0, 2).due(false).type(0xDD, 1).due(true);
+        x.append(9).due(2).record(0, 2).due(40).record(0, 4).due(0xEE).record(0, 42).due(0xEE).record(0, 43).due(0xDD);
     }
 }
